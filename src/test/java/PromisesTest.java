@@ -192,6 +192,15 @@ public final class PromisesTest {
         due("7: drop(0)", x.drop(0), UNKNOWN);
         due("7: top()", x.top(), 0);
         due("7: count(11) stays", x.count(11), 3);
+        HillWays full = new HillWays();
+        for (int i = 0; i < 12; i++) {
+            write(full, i < 6 ? "012345" : "765432");
+            full.way();
+        }
+        due("7: drop of twelve long ones", full.drop(0), 11);
+        due("7: the fifth", full.seen(4, 15), 5);
+        due("7: the sixth", full.seen(5, 15), 2);
+        due("7: the last", full.seen(10, 15), 2);
     }
 
     private static void exchanges() {
