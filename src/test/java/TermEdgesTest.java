@@ -503,6 +503,12 @@ public final class TermEdgesTest {
         for (int net = 0; net < 8; net++) {
             due("net(" + net + ", 4)", x.net(net, 4), cones[net]);
         }
+        // 7 comes first, TOP is 0, 2 and 7; 0 PAYS 1, and so on up to 7: the longest line of those who PAY
+        HillWays line = Check.with("765432", "720", "670", "672", "012");
+        due("top()", line.top(), 133);
+        for (int net = 0; net < 8; net++) {
+            due("all up to " + net, line.net(net, 4), (2 << net) - 1);
+        }
         HillWays y = Check.voted(1, 0);
         due("6 of 2 of 1, not 0", y.net(6, 4), 1 << 6 | 1 << 2 | 1 << 1);
     }
