@@ -485,8 +485,10 @@ public final class PromisesTest {
         x.tell(1, 2, 3);
         x.exchange(5, true);
         write(x, "8 x");
-        due("18: digest()", x.digest(), digestOf(x, "8 x"));
-        due("18: it changes nothing", x.digest(), digestOf(x, "8 x"));
+        // once: a second time would bring the object beyond its 512 calls
+        long want = digestOf(x, "8 x");
+        due("18: digest()", x.digest(), want);
+        due("18: it changes nothing", x.digest(), want);
     }
 
     private static long digestOf(HillWays x, String page) {
