@@ -11,6 +11,7 @@ public final class ModelTest {
     private static final int RUNS = 1000, MOST_CALLS = 512;
     // All questions at once would be more than 512 calls: each run is made so many times, and asked a part each time.
     private static final int PARTS = 8;
+    private static final int[] EDGE_CODES = {31, 32, 126, 127};
 
     private static int wrong = 0;
     private static int calls = 0;
@@ -71,7 +72,8 @@ public final class ModelTest {
             int letters = random.nextInt(7);
             boolean clean = random.nextInt(8) != 0;
             for (int i = 0; i < letters; i++) {
-                int code = '0' + random.nextInt(clean ? nets : nets + 3);
+                boolean atEdge = !clean && random.nextInt(6) == 0;
+                int code = atEdge ? EDGE_CODES[random.nextInt(4)] : '0' + random.nextInt(clean ? nets : nets + 3);
                 if (clean && model.page.indexOf("" + (char) code) >= 0) {
                     continue;
                 }
